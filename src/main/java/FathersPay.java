@@ -182,11 +182,9 @@ public final class FathersPay {
     }
 
     public int fails(int debt) {
-        if (!town.bonds.has(debt)) {
-            return error(BEYOND);
-        }
-        if (!town.bonds.isOwed(debt)) {
-            return error(STATE);
+        int k = whyNot(debt);
+        if (k != 0) {
+            return error(k);
         }
         return defaultNow(debt);
     }
@@ -297,11 +295,9 @@ public final class FathersPay {
     }
 
     public int lost(int debt) {
-        if (!town.bonds.has(debt)) {
-            return error(BEYOND);
-        }
-        if (!town.bonds.isOwed(debt)) {
-            return error(STATE);
+        int k = whyNot(debt);
+        if (k != 0) {
+            return error(k);
         }
         trial.begin();
         trial.failOne(debt);
@@ -508,11 +504,9 @@ public final class FathersPay {
     public int check(int debt) {
         int waiting = town.desk.waiting;
         town.desk.waiting = 0;
-        if (!town.bonds.has(debt)) {
-            return error(BEYOND);
-        }
-        if (!town.bonds.isOwed(debt)) {
-            return error(STATE);
+        int k = whyNot(debt);
+        if (k != 0) {
+            return error(k);
         }
         trial.begin();
         trial.failOne(debt);
@@ -568,6 +562,14 @@ public final class FathersPay {
         return LOW - k;
     }
 
+    /** The ERROR of a DEBT that is not there or is settled; 0 if it can be in DEFAULT. */
+    private int whyNot(int debt) {
+        if (!town.bonds.has(debt)) {
+            return BEYOND;
+        }
+        return town.bonds.isOwed(debt) ? 0 : STATE;
+    }
+
     private boolean mayOwe(int person, int sum, int due) {
         return town.folk.has(person) && sum >= 1 && sum <= MOST_COINS && due >= 0 && due <= LAST_DAY;
     }
@@ -615,6 +617,20 @@ public final class FathersPay {
 
     private static int greaterHalf(int c) {
         return c - c / 2;
+    }
+
+    private static int sumOf(int[] row, int n) {
+        int sum = 0;
+        for (int i = 0; i < n && i < row.length; i++) {
+            sum += row[i];
+        }
+        return sum;
+    }
+
+    private static void copyRows(int[][] from, int[][] to) {
+        for (int i = 0; i < from.length && i < to.length; i++) {
+            System.arraycopy(from[i], 0, to[i], 0, Math.min(from[i].length, to[i].length));
+        }
     }
 
     /** All that an IMAGE keeps. */
@@ -729,9 +745,7 @@ public final class FathersPay {
 
         void become(Folk other) {
             number = other.number;
-            for (int i = 0; i < rows.length; i++) {
-                System.arraycopy(other.rows[i], 0, rows[i], 0, MOST_PERSONS);
-            }
+            copyRows(other.rows, rows);
         }
 
         boolean isChild(int child, int p) {
@@ -763,11 +777,7 @@ public final class FathersPay {
         }
 
         int countAlive() {
-            int n = 0;
-            for (int p = 0; p < number; p++) {
-                n += alive[p];
-            }
-            return n;
+            return sumOf(alive, number);
         }
 
         int countChildrenAlive(int p) {
@@ -818,18 +828,12 @@ public final class FathersPay {
         }
 
         int countOwed() {
-            int n = 0;
-            for (int debt = 0; debt < number; debt++) {
-                n += owed[debt];
-            }
-            return n;
+            return sumOf(owed, number);
         }
 
         void become(Bonds other) {
             number = other.number;
-            for (int i = 0; i < rows.length; i++) {
-                System.arraycopy(other.rows[i], 0, rows[i], 0, MOST_DEBTS);
-            }
+            copyRows(other.rows, rows);
         }
     }
 
