@@ -607,8 +607,9 @@ public final class FathersPay {
         return p < 0 ? 0 : 1 << p;
     }
 
+    /** With its sign, as byte, short and int have one: -1 stays -1 in each width, 200 is -56 in 8 bits. */
     private static int lowestBits(int v, int bits) {
-        return bits == 8 ? v & 0xFF : bits == 16 ? v & 0xFFFF : v;
+        return bits == 8 ? (byte) v : bits == 16 ? (short) v : v;
     }
 
     private static int held(int v, int least, int most) {

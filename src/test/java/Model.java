@@ -955,7 +955,9 @@ public final class Model {
         return act(() -> {
             long[] row = sheetOf(sheet);
             need(in(i, 0, row.length - 1), 1);
-            row[i] = v & (1L << sheetBits[sheet]) - 1;
+            long all = 1L << sheetBits[sheet];
+            long rest = Math.floorMod((long) v, all);
+            row[i] = rest >= all / 2 ? rest - all : rest;
             return 1;
         });
     }
@@ -982,8 +984,7 @@ public final class Model {
             int came = 0;
             int[] before = counted.clone();
             for (int i = 0; i + 3 <= row.length; i += 3) {
-                boolean ints = row[i] <= 99999 && row[i + 1] <= 99999 && row[i + 2] <= 99999;
-                if (!ints || debt((int) row[i], (int) row[i + 1], (int) row[i + 2]) < -1000000000) {
+                if (debt((int) row[i], (int) row[i + 1], (int) row[i + 2]) < -1000000000) {
                     break;
                 }
                 came++;

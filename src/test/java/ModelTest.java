@@ -233,7 +233,8 @@ public final class ModelTest {
         }
         int debt = random.nextInt((int) (long) (Long) MODEL.get("count").invoke(model, 2));
         int persons = (int) (long) (Long) MODEL.get("count").invoke(model, 0);
-        boolean same = call("sheet", 3, 32, random.nextInt(4) == 0 ? random.nextInt(25) : persons);
+        int bits = new int[] {8, 16, 32}[random.nextInt(3)];
+        boolean same = call("sheet", 3, bits, random.nextInt(4) == 0 ? random.nextInt(25) : persons);
         for (int p = 0; p < persons && same; p++) {
             long purse = (Long) MODEL.get("personIs").invoke(model, p, 5);
             same = call("called", debt, p);

@@ -53,20 +53,23 @@ public final class SheetsTest {
         Due.due("below", x.put(0, -1, 0), Due.BEYOND);
         Due.due("above", x.put(0, 3, 0), Due.BEYOND);
         x.person(0, 0, 0);
-        int[][] lowest = {{8, 256 + 77, 77}, {8, 200, 200}, {8, -1, 255}, {16, 65536 + 300, 300}, {16, 40000, 40000},
-            {16, -1, 65535}, {32, 70000, 70000}, {32, 99999, 99999}};
+        int[][] lowest = {{8, 256 + 77, 77}, {8, 127, 127}, {8, -129, 127}, {16, 65536 + 300, 300}, {16, 32767, 32767},
+            {16, -32769, 32767}, {16, 200, 200}, {32, 70000, 70000}, {32, 99999, 99999}};
         for (int i = 0; i < lowest.length; i++) {
             x.sheet(0, lowest[i][0], 3);
             Due.due("put", x.put(0, 1, lowest[i][1]), 1);
             Due.due("a DEBT of it", x.debts(0), 1);
             Due.due("its lowest bits", x.debtIs(i, 1), lowest[i][2]);
         }
-        x.sheet(0, 32, 3);
-        x.put(0, 1, -1);
-        Due.due("32 bits: too much, or below 0", x.debts(0), 0);
-        x.sheet(0, 8, 3);
-        x.put(0, 1, 256);
-        Due.due("256 by 8 bits is 0", x.debts(0), 0);
+        int[][] noSum = {{8, -1}, {8, 128}, {8, 200}, {8, 255}, {8, 256}, {8, -128}, {8, Integer.MIN_VALUE},
+            {8, Integer.MAX_VALUE}, {16, -1}, {16, 32768}, {16, 40000}, {16, 65535}, {16, 65536}, {16, -32768},
+            {16, Integer.MIN_VALUE}, {16, Integer.MAX_VALUE}, {32, -1}, {32, 100000}, {32, Integer.MIN_VALUE},
+            {32, Integer.MAX_VALUE}};
+        for (int[] none : noSum) {
+            x.sheet(0, none[0], 3);
+            x.put(0, 1, none[1]);
+            Due.due(none[1] + " by " + none[0] + " bits is no SUM", x.debts(0), 0);
+        }
     }
 
     private static int at(FathersPay x, int sheet, int i) {
@@ -156,10 +159,33 @@ public final class SheetsTest {
         Due.due("none any more", x.debts(0), 0);
         Due.due("ERRORS told are of SHEETS alone", x.told(1), 2);
         Due.due("none of FULL", x.told(4), 0);
+        belowZero();
         x.sheet(1, 32, 2);
         Due.due("not a whole one", x.debts(1), 0);
         x.sheet(1, 32, 0);
         Due.due("no number", x.debts(1), 0);
+    }
+
+    /** -1 as who, SUM, DUE of the second one stays -1 in each width, moved or not: debt() refuses it. */
+    private static void belowZero() {
+        for (int bits = 8; bits <= 32; bits *= 2) {
+            for (int at = 3; at < 6; at++) {
+                FathersPay x = new FathersPay();
+                x.person(0, 0, 0);
+                x.sheet(0, bits, 9);
+                x.put(0, 1, 5);
+                x.put(0, 4, 6);
+                x.put(0, 7, 7);
+                x.put(0, at, -1);
+                Due.due("-1 at " + at + " in " + bits + " bits", x.debts(0), 1);
+                x.sheet(1, bits, 6);
+                Due.due("moved", x.move(0, 0, 1, 0, 6), 6);
+                Due.due("-1 moved at " + at + " in " + bits + " bits", x.debts(1), 1);
+                x.move(0, 6, 0, 3, 3);
+                Due.due("written over", x.debts(0), 3);
+                Due.due("no ERROR", x.told(1), 0);
+            }
+        }
     }
 
     private static void promise31() {
@@ -192,11 +218,28 @@ public final class SheetsTest {
         x.sheet(1, 8, 3);
         x.put(1, 1, 296);
         Due.due("8 bits of 296 are 40", x.judge(1, 0), 1);
-        x.set(2, 5, 200);
         x.put(1, 0, 10);
         x.put(1, 1, 0);
+        x.set(2, 5, 127);
+        x.put(1, 2, 127);
+        Due.due("127 by 8 bits is 127", x.judge(1, 1), 3);
+        x.put(1, 2, -129);
+        Due.due("-129 by 8 bits is 127", x.judge(1, 1), 3);
+        x.set(2, 5, 200);
         x.put(1, 2, 200);
-        Due.due("200 by 8 bits is 200", x.judge(1, 1), 3);
+        Due.due("200 by 8 bits is below 0", x.judge(1, 1), 2);
+        x.sheet(1, 16, 3);
+        x.put(1, 0, 10);
+        x.put(1, 2, 200);
+        Due.due("200 by 16 bits is 200", x.judge(1, 1), 3);
+        x.set(2, 5, 32768);
+        x.put(1, 2, 32768);
+        Due.due("32768 by 16 bits is below 0", x.judge(1, 1), 2);
+        x.sheet(1, 32, 3);
+        x.put(1, 0, 10);
+        x.put(1, 2, 32768);
+        Due.due("32768 by 32 bits is 32768", x.judge(1, 1), 3);
+        x.set(2, 5, 200);
         x.sheet(1, 16, 24);
         x.put(1, 1, 296);
         x.put(1, 2, 200);
