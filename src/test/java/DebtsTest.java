@@ -325,26 +325,13 @@ public final class DebtsTest {
         Due.due("HOUSE stays", x.personIs(1, 6), 20);
     }
 
-    private static int rest(int z) {
-        return (z >>> 8) % 10;
-    }
-
-    /** A z by which the first draw's rest is so much. */
-    private static int seedFor(int want) {
-        int z = 0;
-        while (rest(z * 1103515245 + 12345) != want) {
-            z++;
-        }
-        return z;
-    }
-
     private static void promise13Deaths() {
         for (int frail = 0; frail <= 9; frail++) {
             for (int draw = 0; draw <= 9; draw++) {
                 FathersPay x = new FathersPay();
                 x.person(0, 0, 0);
                 x.set(0, 7, frail);
-                x.seed(seedFor(draw));
+                x.seed(Draws.seedFor(draw));
                 Due.due("FRAIL " + frail + ", rest " + draw, x.years(1), draw < frail ? 1 : 0);
                 Due.due("ALIVE", x.personIs(0, 4), draw < frail ? 0 : 1);
             }
@@ -359,7 +346,7 @@ public final class DebtsTest {
         x.parent(2, 1, 0);
         x.parent(3, 1, 0);
         x.set(1, 4, 0);
-        x.seed(seedFor(0));
+        x.seed(Draws.seedFor(0));
         x.set(2, 5, 99700);
         // FRESH first: 30 of its HOUSE; the least ALIVE child, 2, gets 299 of 530; its own FRESH is cut by 99999
         Due.due("one dies", x.years(1), 1);
@@ -379,27 +366,18 @@ public final class DebtsTest {
         y.person(0, 20, 40);
         y.parent(0, 1, 1);
         y.set(1, 7, 9);
-        y.seed(seedSecond());
+        y.seed(Draws.seedFor(-1, 0));
         Due.due("the HOUSE to its HOUSE", y.years(1), 1);
         Due.due("PURSE", y.personIs(0, 5), 32);
         Due.due("HOUSE", y.personIs(0, 6), 40);
         y.set(0, 7, 9);
-        y.seed(seedFor(3));
+        y.seed(Draws.seedFor(3));
         Due.due("without a child", y.years(20), 1);
         Due.due("THE TOWN gets all", y.count(5), 32 + 40 + 2);
         int z = y.count(9);
         Due.due("nobody is left to die", y.years(20), 0);
         Due.due("and none draws", y.count(9), z);
-        Due.due("one draw alone", z, seedFor(3) * 1103515245 + 12345);
-    }
-
-    /** A z by which the second draw's rest is below 9. */
-    private static int seedSecond() {
-        int z = 0;
-        while (rest((z * 1103515245 + 12345) * 1103515245 + 12345) > 8) {
-            z++;
-        }
-        return z;
+        Due.due("one draw alone", z, Draws.next(Draws.seedFor(3)));
     }
 
     private static void promise13TheTownsEnds() {

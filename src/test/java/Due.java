@@ -1,3 +1,5 @@
+import java.util.function.IntToLongFunction;
+
 /** Counts the calls of a test whose answer is not the one that is due. */
 final class Due {
     static final int LOW = -1000000000;
@@ -10,8 +12,14 @@ final class Due {
 
     private static int asked = 0;
     private static int wrong = 0;
+    private static String words = "";
 
     private Due() {
+    }
+
+    /** The sentence of the document that what follows is a test of; it is told with what isn't as due. */
+    static void sentence(String ofDocument) {
+        words = "[" + ofDocument + "] ";
     }
 
     static void due(String call, long got, long want) {
@@ -19,7 +27,7 @@ final class Due {
         if (got != want) {
             wrong++;
             if (wrong <= 40) {
-                System.out.println(call + " answered " + got + ", due is " + want);
+                System.out.println(words + call + " answered " + got + ", due is " + want);
             }
         }
     }
@@ -28,8 +36,18 @@ final class Due {
         asked++;
         if (!is) {
             wrong++;
-            System.out.println("not so: " + what);
+            System.out.println(words + "not so: " + what);
         }
+    }
+
+    /** The first and the last number that a call takes; beyond each end it is BEYOND. */
+    static void ends(String call, IntToLongFunction act, int first, int last) {
+        due(call + " of " + (first - 1), act.applyAsLong(first - 1), BEYOND);
+        due(call + " of " + (last + 1), act.applyAsLong(last + 1), BEYOND);
+        due(call + " of the least int", act.applyAsLong(Integer.MIN_VALUE), BEYOND);
+        due(call + " of the greatest int", act.applyAsLong(Integer.MAX_VALUE), BEYOND);
+        holds(call + " takes " + first, act.applyAsLong(first) >= LOW);
+        holds(call + " takes " + last, act.applyAsLong(last) >= LOW);
     }
 
     /** Feeds a text to THE TAPE, eight bytes at most a call. */

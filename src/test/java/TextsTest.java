@@ -38,18 +38,6 @@ public final class TextsTest {
         Due.due("the eighth byte: a number of more than 4 digits", y.text(0), -14);
     }
 
-    private static int fault(int use, String text) {
-        FathersPay x = new FathersPay();
-        Due.feed(x, text);
-        int answer = x.text(use);
-        Due.due("THE TAPE is empty behind " + text, x.count(6), 0);
-        Due.due("there is a TEXT by " + text, x.untell(use), answer == 1 ? 1 : 0);
-        for (int k = 1; k <= 6; k++) {
-            Due.due("no ERROR told by " + text, x.told(k), 0);
-        }
-        return answer == 1 ? -1 : -10 - answer;
-    }
-
     private static void promise16() {
         FathersPay x = new FathersPay();
         Due.feed(x, "c/2");
@@ -80,7 +68,7 @@ public final class TextsTest {
             "1<(2<3)", "1<2|3=4&5>6", "!1!1".substring(0, 2), "!(1)*!2", "1-1-1", "((((1))))+((((2))))", "!!!!!1+!!!!!2",
             "1+1+1+1+1+1+1+1+1+1+1+1+1+1+1+1+1+1+1+1+1+1+1+1+1+1+1+1+1+12"};
         for (String text : fine) {
-            Due.due("FAULT of " + text, fault(0, text), -1);
+            Due.due("FAULT of " + text, Texts.fault(0, text), -1);
         }
         Object[][] faults = {{"", 0}, {"+", 0}, {"-1", 0}, {" 1", 0}, {"1 ", 1}, {"1+ 1", 2}, {"12345", 4}, {"c1", 1}, {"1c", 1},
             {"cc", 1}, {"1<2<3", 3}, {"1=2>3", 3}, {"(1<2<3)", 4}, {"1<2&3<4<5", 7}, {"1<=2", 2}, {"1<", 2}, {"1!", 1}, {"!", 1},
@@ -90,26 +78,12 @@ public final class TextsTest {
             {"\u00ff", 0}, {"c\u00e3", 1}, {"(c|p&h<s+m*", 11}, {"1>2)", 3},
             {"1+1+1+1+1+1+1+1+1+1+1+1+1+1+1+1+1+1+1+1+1+1+1+1+1+1+1+1+1+1+", 60}};
         for (Object[] f : faults) {
-            Due.due("FAULT of " + f[0], fault(0, (String) f[0]), (Integer) f[1]);
+            Due.due("FAULT of " + f[0], Texts.fault(0, (String) f[0]), (Integer) f[1]);
         }
-        Due.due("names of FRESH", fault(1, "p+h+n"), -1);
-        Due.due("not c", fault(1, "p+c"), 2);
-        Due.due("not s", fault(1, "s"), 0);
-        Due.due("not m", fault(1, "n*m"), 2);
-    }
-
-    /** What a TEXT is worth, seen by FRESH: it holds 0 .. 9999, so texts are asked by what lies within. */
-    private static int fresh(String text, int purse, int house) {
-        FathersPay x = new FathersPay();
-        x.person(0, purse, house);
-        x.person(0, 0, 0);
-        x.person(0, 0, 0);
-        x.parent(1, 0, 0);
-        x.parent(2, 1, 0);
-        Due.feed(x, text);
-        Due.due("text " + text, x.text(1), 1);
-        x.years(1);
-        return x.personIs(0, 5) - purse;
+        Due.due("names of FRESH", Texts.fault(1, "p+h+n"), -1);
+        Due.due("not c", Texts.fault(1, "p+c"), 2);
+        Due.due("not s", Texts.fault(1, "s"), 0);
+        Due.due("not m", Texts.fault(1, "n*m"), 2);
     }
 
     private static void promise16Worth() {
@@ -125,7 +99,7 @@ public final class TextsTest {
             {"4096*4096*128=0-4096*4096*128", 1}, {"4096*4096*128/(0-1)<0", 1}, {"4096*4096*128%(0-1)+3", 3},
             {"1+(2+(3+(4+(5+6))))", 21}, {"1|0&1<1+1*(0|1&2>1+1*(1))", 1}, {"1-1=0&2*3=6|0", 1}};
         for (Object[] w : worth) {
-            Due.due((String) w[0], fresh((String) w[0], 100, 230), (Integer) w[1]);
+            Due.due((String) w[0], Texts.fresh((String) w[0], 100, 230), (Integer) w[1]);
         }
     }
 
