@@ -10,6 +10,7 @@ public final class PromiseEndsOfSheetsTest {
         debtsOfSheets();
         judged();
         imagesKept();
+        imageOfTapeAndNumbers();
         imageOfEmptyAndFull();
         numbersWait();
         checked();
@@ -100,6 +101,28 @@ public final class PromiseEndsOfSheetsTest {
             Due.due("put", x.put(0, p, p == 0 ? 999 : 1000 + p), 1);
         }
         Due.due("all are so", x.judge(0, 0), 12);
+        Due.sentence("Promise 28: Number i of a SHEET becomes v: no other number, no other SHEET");
+        int[] row = {11, 12, 13, 14};
+        for (int sheet = 0; sheet < 4; sheet++) {
+            for (int i = 0; i < 4; i++) {
+                FathersPay y = Towns.poor(5);
+                y.debt(4, 1, 0);
+                for (int other = 0; other < 4; other++) {
+                    Towns.lay(y, other, 16, 11, 12, 13, 14, 0);
+                }
+                y.put(sheet, i, 77);
+                for (int p = 0; p < 4; p++) {
+                    y.set(p, 5, row[p]);
+                }
+                for (int other = 0; other < 4; other++) {
+                    Due.due("SHEET " + other + " by " + i + " of " + sheet, y.judge(other, 0), other == sheet ? i : 5);
+                }
+                y.set(i, 5, 77);
+                Due.due("all others are so", y.judge(sheet, 0), 5);
+                y.sheet(sheet, 0, 0);
+                Due.due("missing alone", y.judge((sheet + 1) % 4, 0), i);
+            }
+        }
     }
 
     /** SHEETS of 24, 1, 0, 3 numbers of 8 bits. */
@@ -282,6 +305,41 @@ public final class PromiseEndsOfSheetsTest {
         x.restore();
         Due.due("what is told stays", x.told(1), 1);
         Due.due("how often stays", x.image(), 7);
+    }
+
+    private static void imageOfTapeAndNumbers() {
+        Due.sentence("Promise 32: All is kept: the bytes of THE TAPE, the numbers that wait, TEXTS that there are or not");
+        FathersPay x = Towns.chain(2, 0);
+        Towns.become(x, 0, 600);
+        x.set(0, 5, 30);
+        x.set(1, 5, 9);
+        x.debt(0, 60, 0);
+        Due.feed(x, "c/4");
+        x.tell(0);
+        x.tell(1);
+        x.image();
+        for (int times = 0; times < 2; times++) {
+            Due.due("the numbers that wait", x.check(0), 0);
+            Due.due("THE TAPE", x.text(0), 1);
+            Due.due("its TEXT", x.called(0, 0), 15);
+            Due.feed(x, "!!!");
+            x.tell(7);
+            x.tell(8);
+            x.text(0);
+            Towns.tell(x, 1, "5");
+            x.restore();
+            Due.due("no ANSWERS", x.untell(0), 0);
+            Due.due("no FRESH", x.untell(1), 0);
+        }
+        x.text(0);
+        x.image();
+        Towns.tell(x, 0, "c/6");
+        Due.due("another TEXT", x.called(0, 0), 10);
+        x.restore();
+        Due.due("the TEXT that was kept", x.called(0, 0), 15);
+        x.untell(0);
+        x.restore();
+        Due.due("not told any more, but kept", x.called(0, 0), 15);
     }
 
     private static void imageOfEmptyAndFull() {

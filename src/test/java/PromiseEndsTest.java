@@ -2,6 +2,7 @@
 public final class PromiseEndsTest {
     public static void main(String[] args) {
         newObject();
+        callsOfAnObject();
         persons();
         personsFull();
         parents();
@@ -35,6 +36,15 @@ public final class PromiseEndsTest {
         other.seed(9);
         Due.due("objects are apart", x.count(0), 0);
         Due.due("in all", x.count(9), 1);
+    }
+
+    private static void callsOfAnObject() {
+        Due.sentence("What it is: An object is used for at most 512 calls after it has been made");
+        FathersPay x = new FathersPay();
+        for (int i = 1; i <= 511; i++) {
+            Due.due("call " + i, x.told(0), Due.BEYOND);
+        }
+        Due.due("the 512th call", x.told(1), 511);
     }
 
     private static void persons() {
@@ -78,6 +88,30 @@ public final class PromiseEndsTest {
         for (int i = 0; i < what.length; i++) {
             int of = what[i];
             Due.ends("set: v of " + of, v -> Towns.poor(1).set(0, of, v), 0, most[i]);
+        }
+        allElseStays();
+    }
+
+    private static void allElseStays() {
+        Due.sentence("Promise 5: what it was (all else stays)");
+        int[] what = {0, 1, 4, 5, 6, 7};
+        int[] to = {2, 55, 0, 7, 8, 6};
+        for (int i = 0; i < what.length; i++) {
+            for (int p = 0; p < 5; p++) {
+                FathersPay x = Towns.settled();
+                FathersPay other = Towns.settled();
+                Due.due("what it was", x.set(p, what[i], to[i]), other.personIs(p, what[i]));
+                for (int q = 0; q < 5; q++) {
+                    for (int of = 0; of <= 9; of++) {
+                        boolean isSet = q == p && of == what[i];
+                        Due.due("personIs(" + q + ", " + of + ")", x.personIs(q, of), isSet ? to[i] : other.personIs(q, of));
+                    }
+                }
+                for (int of = 0; of <= 9; of++) {
+                    int fewer = of == 1 && what[i] == 4 ? 1 : 0;
+                    Due.due("count(" + of + ")", x.count(of), other.count(of) - fewer);
+                }
+            }
         }
     }
 

@@ -24,6 +24,7 @@ public final class RefusedTest {
         bySheets();
         byRestOfAll();
         whereTold();
+        byAskingOnly();
         inTheirOrder();
         inTheirOrderOfSheets();
         Due.end();
@@ -206,6 +207,34 @@ public final class RefusedTest {
         for (int k = 1; k <= 6; k++) {
             Due.due("told", x.told(k), 0);
         }
+    }
+
+    private static void byAskingOnly() {
+        Due.sentence("Promises 3, 4, 9, 18 to 24, 26, 31, 36, 37: what only asks changes nothing, not even what is told");
+        for (int what = 0; what <= 9; what++) {
+            int of = what;
+            Twins.unchanged("personIs of " + what, x -> x.personIs(0, of));
+            Twins.unchanged("count of " + what, x -> x.count(of));
+        }
+        for (int what = 0; what <= 3; what++) {
+            int of = what;
+            Twins.unchanged("debtIs of " + what, x -> x.debtIs(1, of));
+        }
+        for (int k = 1; k <= 6; k++) {
+            int of = k;
+            Twins.unchanged("told of " + k, x -> x.told(of));
+        }
+        Twins.unchanged("as", x -> x.as(4, 3));
+        Twins.unchanged("called", x -> x.called(0, 1));
+        Twins.unchanged("lost", x -> x.lost(0));
+        Twins.unchanged("bespoke", x -> x.bespoke(1));
+        Twins.unchanged("safe above", x -> x.safe(0, 0));
+        Twins.unchanged("safe below", x -> x.safe(1, 1));
+        Twins.unchanged("disown", x -> x.disown(1));
+        Twins.unchanged("adopt", x -> x.debt(2, 99, 9), x -> x.adopt(4));
+        Twins.unchanged("needs", x -> x.needs());
+        Twins.unchanged("body", x -> x.body(4));
+        Twins.unchanged("judge", x -> x.judge(0, 0));
     }
 
     private static void inTheirOrder() {

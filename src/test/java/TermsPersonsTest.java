@@ -124,32 +124,32 @@ public final class TermsPersonsTest {
 
     private static void purse() {
         Due.sentence("Term 1: a PURSE (0 .. 99999)");
-        FathersPay x = new FathersPay();
-        Due.due("below", x.person(0, -1, 0), Due.BEYOND);
-        Due.due("above", x.person(0, 100000, 0), Due.BEYOND);
-        Due.due("empty", x.person(0, 0, 0), 0);
-        Due.due("full", x.person(0, 99999, 0), 1);
-        Due.due("empty", x.personIs(0, 5), 0);
-        Due.due("full", x.personIs(1, 5), 99999);
-        Due.due("below", x.set(0, 5, -1), Due.BEYOND);
-        Due.due("above", x.set(0, 5, 100000), Due.BEYOND);
-        Due.due("full", x.set(0, 5, 99999), 0);
-        Due.due("empty", x.set(0, 5, 0), 99999);
+        coins(5);
     }
 
     private static void house() {
         Due.sentence("Term 1: a HOUSE (what it is worth; 0 .. 99999)");
+        coins(6);
+    }
+
+    /** A PERSON with so many coins, in the PURSE (what 5) or the HOUSE (what 6). */
+    private static int personWith(FathersPay x, int what, int coins) {
+        return x.person(0, what == 5 ? coins : 0, what == 6 ? coins : 0);
+    }
+
+    private static void coins(int what) {
         FathersPay x = new FathersPay();
-        Due.due("below", x.person(0, 0, -1), Due.BEYOND);
-        Due.due("above", x.person(0, 0, 100000), Due.BEYOND);
-        Due.due("none", x.person(0, 0, 0), 0);
-        Due.due("the dearest", x.person(0, 0, 99999), 1);
-        Due.due("none", x.personIs(0, 6), 0);
-        Due.due("the dearest", x.personIs(1, 6), 99999);
-        Due.due("below", x.set(0, 6, -1), Due.BEYOND);
-        Due.due("above", x.set(0, 6, 100000), Due.BEYOND);
-        Due.due("the dearest", x.set(0, 6, 99999), 0);
-        Due.due("none", x.set(0, 6, 0), 99999);
+        Due.due("below", personWith(x, what, -1), Due.BEYOND);
+        Due.due("above", personWith(x, what, 100000), Due.BEYOND);
+        Due.due("empty", personWith(x, what, 0), 0);
+        Due.due("full", personWith(x, what, 99999), 1);
+        Due.due("empty", x.personIs(0, what), 0);
+        Due.due("full", x.personIs(1, what), 99999);
+        Due.due("the other one of the two", x.personIs(1, 11 - what), 0);
+        Due.due("below", x.set(0, what, -1), Due.BEYOND);
+        Due.due("above", x.set(0, what, 100000), Due.BEYOND);
+        Due.due("full", x.set(0, what, 99999), 0);
+        Due.due("empty", x.set(0, what, 0), 99999);
     }
 
     private static void frail() {

@@ -14,9 +14,11 @@ public final class TermsWouldBeTest {
         safeBehindWhatWouldBe();
         disownLeast();
         disownAllTies();
+        disownDead();
         disownByHand();
         adoptLeast();
         adoptNobodyUnder();
+        adoptDead();
         adoptByHand();
         line();
         heirs();
@@ -198,14 +200,19 @@ public final class TermsWouldBeTest {
             safe(x, 0, 7, 1);
         }
         Due.sentence("Term 4: who isn't FRAIL doesn't count, where so many stand above");
-        FathersPay x = Towns.chain(12, 0);
-        x.rule(0, 9);
+        FathersPay x = Towns.family(12);
+        int[][] above = {{1, 3, 4}, {2, 5, 6}, {3, 7, 8}, {4, 9, 10}, {5, 11, -1}};
+        for (int[] a : above) {
+            x.parent(a[0], 0, a[1]);
+            x.parent(a[0], 1, a[2]);
+        }
         for (int p = 3; p < 12; p++) {
             x.set(p, 7, 5);
         }
-        x.set(9, 5, 8);
+        // 8 owed: 4 come to 2, 2 of them to 5, and all of these to 11
+        x.set(11, 5, 2);
         x.debt(0, 8, 0);
-        safe(x, 0, 4, 1);
+        safe(x, 0, 7, 1);
     }
 
     /** A family of six, those below 5 FRAIL by what is told; each of them with a purse. */
@@ -329,6 +336,20 @@ public final class TermsWouldBeTest {
         }
     }
 
+    private static void disownDead() {
+        Due.sentence("Term 4: DISOWN: the child, ALIVE or not");
+        FathersPay x = Towns.poor(3);
+        x.parent(0, 0, 2);
+        x.parent(1, 1, 2);
+        x.set(2, 5, 100);
+        x.debt(0, 10, 0);
+        x.debt(1, 11, 0);
+        x.set(1, 4, 0);
+        Due.due("a dead one whose DEBT comes up", x.disown(2), 1);
+        x.set(0, 4, 0);
+        Due.due("all are dead", x.disown(2), 1);
+    }
+
     private static void disownByHand() {
         Due.sentence("Term 4: DISOWN: each child cut by parent(), then bespoke()");
         for (int[] kinds : KINDS) {
@@ -419,6 +440,19 @@ public final class TermsWouldBeTest {
         }
     }
 
+    private static void adoptDead() {
+        Due.sentence("Term 4: ADOPT: the PERSON, ALIVE or not");
+        FathersPay x = Towns.poor(4);
+        x.debt(0, 10, 0);
+        x.parent(2, 0, 3);
+        x.set(3, 5, 7);
+        x.set(2, 4, 0);
+        Due.due("a dead one as dear as who is above: the least", x.adopt(0), 2);
+        x.set(1, 4, 0);
+        x.set(3, 4, 0);
+        Due.due("all others are dead: the least", x.adopt(0), 1);
+    }
+
     private static void adoptByHand() {
         Due.sentence("Term 4: ADOPT: each one made FATHER by parent(), then lost()");
         for (int[] kinds : KINDS) {
@@ -461,6 +495,9 @@ public final class TermsWouldBeTest {
         y.parent(4, 1, 3);
         y.rule(0, 1);
         Due.due("both ways, whatever THE LAW says", y.personIs(0, 8), 2 | 4 | 8 | 16);
+        y.set(1, 4, 0);
+        y.set(2, 4, 0);
+        Due.due("dead ones and who is above them, too", y.personIs(0, 8), 2 | 4 | 8 | 16);
     }
 
     private static void heirs() {

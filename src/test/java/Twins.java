@@ -24,17 +24,39 @@ final class Twins {
     static void refusedBut(String call, Consumer<FathersPay> ahead, ToLongFunction<FathersPay> act, int error,
             Consumer<FathersPay> changed) {
         for (Function<FathersPay, List<Long>> look : LOOKS) {
-            FathersPay asked = Towns.settled();
-            FathersPay left = Towns.settled();
-            ahead.accept(asked);
-            ahead.accept(left);
+            FathersPay asked = behind(ahead);
+            FathersPay left = behind(ahead);
             Due.due(call, act.applyAsLong(asked), error);
             changed.accept(left);
-            for (int k = 1; k <= 6; k++) {
-                Due.due("told(" + k + ") behind " + call, asked.told(k), left.told(k) + (Due.LOW - k == error ? 1 : 0));
-            }
-            Due.holds("nothing else changes by " + call, look.apply(asked).equals(look.apply(left)));
+            compare(call, asked, left, error, look);
         }
+    }
+
+    /** A call that only asks. */
+    static void unchanged(String call, Consumer<FathersPay> ahead, ToLongFunction<FathersPay> act) {
+        for (Function<FathersPay, List<Long>> look : LOOKS) {
+            FathersPay asked = behind(ahead);
+            Due.holds(call + " is no ERROR", act.applyAsLong(asked) >= Due.LOW);
+            compare(call, asked, behind(ahead), 0, look);
+        }
+    }
+
+    static void unchanged(String call, ToLongFunction<FathersPay> act) {
+        unchanged(call, x -> { }, act);
+    }
+
+    private static FathersPay behind(Consumer<FathersPay> ahead) {
+        FathersPay x = Towns.settled();
+        ahead.accept(x);
+        return x;
+    }
+
+    private static void compare(String call, FathersPay asked, FathersPay left, int error,
+            Function<FathersPay, List<Long>> look) {
+        for (int k = 1; k <= 6; k++) {
+            Due.due("told(" + k + ") behind " + call, asked.told(k), left.told(k) + (Due.LOW - k == error ? 1 : 0));
+        }
+        Due.holds("nothing else changes by " + call, look.apply(asked).equals(look.apply(left)));
     }
 
     /** All but SHEETS and the IMAGE; changes what can only be seen by that. */
