@@ -25,6 +25,7 @@ public final class TermsTextsTest {
         endsTooEarly();
         answersHeld();
         answersNames();
+        textsInPlaceOfOthers();
         answersWithoutText();
         freshHeld();
         freshNames();
@@ -403,6 +404,25 @@ public final class TermsTextsTest {
         Towns.tell(y, Texts.ANSWERS, "p/2+h/2");
         // 10 of the PURSE first; then 5 of the HOUSE
         Due.due("by both ways", y.called(0, 3), 15);
+    }
+
+    private static void textsInPlaceOfOthers() {
+        Due.sentence("Promise 16: the TEXT of a USE, in place of one ahead, is that one alone");
+        String[] texts = {"7", "p", "!p", "!!p", "p+1", "!(p+1)", "1|0", "1+2*3", "(1<2)+!0", "h%7-p*0", "9-8-7-6", "!1|!2&!3"};
+        for (String first : texts) {
+            for (String second : texts) {
+                for (String fault : new String[] {"", "!!!!!!", "p+", "12345"}) {
+                    FathersPay x = new FathersPay();
+                    x.person(0, 100, 230);
+                    Towns.tell(x, Texts.FRESH, first);
+                    Towns.tell(x, Texts.FRESH, second);
+                    Due.feed(x, fault);
+                    Due.holds("FAULT of " + fault, x.text(Texts.FRESH) <= -10);
+                    x.years(1);
+                    Due.due(second + " behind " + first, x.personIs(0, 5) - 100, Texts.fresh(second, 100, 230));
+                }
+            }
+        }
     }
 
     private static void answersWithoutText() {

@@ -22,6 +22,7 @@ public final class TermsWouldBeTest {
         adoptByHand();
         line();
         heirs();
+        lineAndHeirsOfAnyNumbers();
         record();
         Due.end();
     }
@@ -498,6 +499,26 @@ public final class TermsWouldBeTest {
         y.set(1, 4, 0);
         y.set(2, 4, 0);
         Due.due("dead ones and who is above them, too", y.personIs(0, 8), 2 | 4 | 8 | 16);
+    }
+
+    private static void lineAndHeirsOfAnyNumbers() {
+        Due.sentence("Term 4: LINE and HEIRS, whatever the numbers of those between");
+        for (int order = 0; order < 256; order++) {
+            int[] up = {order & 3, order >> 2 & 3, order >> 4 & 3, order >> 6 & 3};
+            int all = 1 << up[0] | 1 << up[1] | 1 << up[2] | 1 << up[3];
+            if (all == 15) {
+                FathersPay x = Towns.poor(4);
+                for (int i = 0; i < 3; i++) {
+                    x.parent(up[i], i % 2, up[i + 1]);
+                }
+                int under = 0;
+                for (int i = 0; i < 4; i++) {
+                    Due.due("HEIRS of " + up[i], x.personIs(up[i], 9), under);
+                    under |= 1 << up[i];
+                    Due.due("LINE of " + up[i], x.personIs(up[i], 8), all & ~under);
+                }
+            }
+        }
     }
 
     private static void heirs() {
